@@ -114,8 +114,8 @@ public final class PolicyScript {
         return isTrue(keyless) ? UNSIGNED : SIGNED;
     }
 
+    // The slots of a draft are never read, and sealing empties them.
     public void reopen() {
-        fillSlots(0);
         tokenCount = 0;
         lockCount = 0;
         rootCount = 0;

@@ -10,6 +10,7 @@ public final class Promise10Test {
         minimalAlone();
         openTimes();
         leastWeight();
+        eightKeys();
         DUE.end();
     }
 
@@ -77,11 +78,12 @@ public final class Promise10Test {
         PolicyScript y = new PolicyScript(8, 1, 1, 1);
         y.lock(2, 0);
         y.lock(2, 1);
-        y.lock(3, 9);
-        y.join(1, 2);
+        y.lock(1, 0);
         y.join(2, 2);
+        y.join(1, 2);
         y.seal();
-        DUE.is("malleate() before 9", y.malleate(), 2);
+        DUE.is("malleate() of hash 0 or (hash 1 and key 0)", y.malleate(), 1);
+        DUE.same("slots", Due.slots(y), "128 0 0 0 0 0 0 0");
         DUE.refused("malleate() again", y, Due.view(y), y.malleate(), PolicyScript.NONE);
     }
 
@@ -112,5 +114,22 @@ public final class Promise10Test {
         DUE.is("malleate() at 1", x.malleate(), 10);
         DUE.same("slots", Due.slots(x), "0 192 193 0 0 0 0 0");
         DUE.is("malleate() of the best", x.malleate(), 30);
+    }
+
+    private static void eightKeys() {
+        PolicyScript x = new PolicyScript(8, 3, 1, 1);
+        for (int i = 0; i < 8; i++) {
+            x.lock(1, i);
+            x.hold(1, i, true);
+        }
+        x.join(1, 8);
+        x.seal();
+        DUE.refused("malleate() of eight keys", x, Due.view(x), x.malleate(), PolicyScript.NONE);
+        x.place(0, 1, 7);
+        DUE.is("malleate() with key 7 in slot 0", x.malleate(), 3);
+        DUE.same("slots", Due.slots(x), "0 0 0 0 0 0 0 71");
+        x.place(7, 1, 0);
+        DUE.is("malleate() with key 0 in slot 7", x.malleate(), 3);
+        DUE.same("slots", Due.slots(x), "64 0 0 0 0 0 0 0");
     }
 }

@@ -6,6 +6,7 @@ public final class Promise13Test {
         draft();
         everyAnswer();
         wrongComesFirst();
+        oneTooMany();
         clockJudges();
         DUE.end();
     }
@@ -59,6 +60,34 @@ public final class Promise13Test {
         judged("with one wrong slot of three", x, PolicyScript.WRONG);
         x.place(2, 2, 2);
         judged("with three", x, PolicyScript.LOOSE);
+        x.place(0, 2, 1);
+        judged("with slot 0 wrong", x, PolicyScript.WRONG);
+    }
+
+    /** Two of three, one of them being (after 1 and after 60): after 1 alone is of no use. */
+    private static void oneTooMany() {
+        for (int spare = 0; spare < 3; spare++) {
+            PolicyScript x = new PolicyScript(8, 1, 1, 1);
+            x.setTime(9);
+            for (int i = 0; i < 3; i++) {
+                x.lock(3, i == spare ? 1 : 2);
+                if (i == spare) {
+                    x.lock(3, 60);
+                    x.join(2, 2);
+                }
+            }
+            x.join(2, 3);
+            x.seal();
+            for (int i = 0; i < 4; i++) {
+                int number = x.token(i > spare + 1 ? i + 1 : i) % 64;
+                if (number != 60) {
+                    x.place(i, 3, number);
+                }
+            }
+            judged("with the spare lock " + spare, x, PolicyScript.LOOSE);
+            x.place(spare, 0, 0);
+            judged("without the spare lock " + spare, x, PolicyScript.ACCEPTED);
+        }
     }
 
     private static void clockJudges() {
