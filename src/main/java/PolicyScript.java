@@ -155,11 +155,7 @@ public final class PolicyScript {
         }
         int available = ownersLocks(clock);
         int best = bestTrueSubset(available);
-        if (best == 0) {
-            return NONE;
-        }
-        fillSlots(best);
-        return weightOf(best);
+        return takeAsWitness(best);
     }
 
     public int malleate() {
@@ -169,11 +165,7 @@ public final class PolicyScript {
         int available = onlookersLocks();
         int filled = filledLocks();
         int best = bestMinimalSubset(available, filled);
-        if (best == 0) {
-            return NONE;
-        }
-        fillSlots(best);
-        return weightOf(best);
+        return takeAsWitness(best);
     }
 
     public int variants() {
@@ -396,6 +388,14 @@ public final class PolicyScript {
             }
         }
         return best;
+    }
+
+    private int takeAsWitness(int set) {
+        if (set == 0) {
+            return NONE;
+        }
+        fillSlots(set);
+        return weightOf(set);
     }
 
     private int keylessLocks() {
