@@ -3,12 +3,18 @@ public final class Promise03Test {
     private static final Due DUE = new Due();
 
     public static void main(String[] args) {
-        everyJoin();
-        badJoins();
-        tooFewRoots();
-        sealedPolicy();
-        lastRootsAreTaken();
-        longestPolicy();
+        DUE.sentence("1. The policy is sealed: SEALED.", Promise03Test::sealed);
+        DUE.sentence("2. n is not in 2..8,", Promise03Test::badN);
+        DUE.sentence("or k is not in 1..n: BAD.", Promise03Test::badK);
+        DUE.sentence("3. There are fewer than n roots: ROOTS.", Promise03Test::tooFewRoots);
+        DUE.sentence("4. Otherwise the join token is appended,", Promise03Test::tokenIsAppended);
+        DUE.sentence("the last n roots become one", Promise03Test::lastRootsBecomeOne);
+        DUE.sentence("(the new last root,", Promise03Test::newLastRoot);
+        DUE.sentence("true exactly when at least k of those n are true),", Promise03Test::atLeastK);
+        DUE.sentence("and the answer is the number of roots there are now.", Promise03Test::answer);
+        DUE.sentence("Earlier roots stay as they are.", Promise03Test::earlierRootsStay);
+        DUE.sentence("The number of locks and their numbering do not change, nor what is held, nor the"
+            + " clock.", Promise03Test::locksHeldAndClockStay);
         DUE.end();
     }
 
@@ -20,36 +26,45 @@ public final class Promise03Test {
         return x;
     }
 
-    /** Each join is true from k held hashes on, whichever these are. */
-    private static void everyJoin() {
-        for (int n = 2; n <= 8; n++) {
-            for (int k = 1; k <= n; k++) {
-                PolicyScript x = fed(n);
-                String call = "join(" + k + ", " + n + ")";
-                DUE.is(call, x.join(k, n), 1);
-                DUE.is("token after " + call, x.token(n), 256 + (k - 1) * 8 + (n - 1));
-                x.seal();
-                for (int i = n - 1; i >= 0; i--) {
-                    int held = n - 1 - i;
-                    DUE.is(call + " with " + held, x.earliest(), held >= k ? 0 : PolicyScript.NONE);
-                    x.hold(PolicyScript.HASH, i, true);
-                }
-                DUE.is(call + " with all", x.earliest(), 0);
-            }
+    private static void holdOnly(PolicyScript x, int mask) {
+        for (int i = 0; i < 8; i++) {
+            x.hold(PolicyScript.HASH, i, (mask >> i & 1) == 1);
         }
     }
 
-    private static void badJoins() {
-        int[][] pairs = {{0, 2}, {-1, 2}, {3, 2}, {1, 1}, {1, 0}, {0, 0}, {-1, -1}, {1, 9}, {9, 9},
-            {9, 8}, {0, 8}, {Integer.MIN_VALUE, 2}, {Integer.MAX_VALUE, 2}, {1, Integer.MIN_VALUE},
-            {1, Integer.MAX_VALUE}, {Integer.MIN_VALUE, Integer.MIN_VALUE}};
+    private static void sealed() {
+        for (State state : State.sealedOnes()) {
+            PolicyScript x = state.make();
+            DUE.is("join of too few roots in " + state, x.join(1, 2), PolicyScript.SEALED);
+            for (int n : Due.ints()) {
+                DUE.is("join(1, " + n + ") in " + state, x.join(1, n), PolicyScript.SEALED);
+                DUE.is("join(" + n + ", 2) in " + state, x.join(n, 2), PolicyScript.SEALED);
+            }
+            DUE.still(state, "join when sealed", x);
+        }
+    }
+
+    private static void badN() {
         for (int locks = 0; locks <= 8; locks += 4) {
             PolicyScript x = fed(locks);
-            String before = Due.view(x);
-            for (int[] pair : pairs) {
-                int got = x.join(pair[0], pair[1]);
-                DUE.refused("join(" + pair[0] + ", " + pair[1] + ")", x, before, got, PolicyScript.BAD);
+            for (int n : Due.intsOutside(2, 8)) {
+                for (int k : new int[] {Integer.MIN_VALUE, -1, 0, 1, 2, 8, 9, n, Integer.MAX_VALUE}) {
+                    DUE.is("join(" + k + ", " + n + ")", x.join(k, n), PolicyScript.BAD);
+                }
             }
+            DUE.same("after bad joins", State.future(x), State.future(fed(locks)));
+        }
+    }
+
+    private static void badK() {
+        for (int locks = 0; locks <= 8; locks += 4) {
+            PolicyScript x = fed(locks);
+            for (int n = 2; n <= 8; n++) {
+                for (int k : Due.intsOutside(1, n)) {
+                    DUE.is("join(" + k + ", " + n + ")", x.join(k, n), PolicyScript.BAD);
+                }
+            }
+            DUE.same("after bad joins", State.future(x), State.future(fed(locks)));
         }
     }
 
@@ -57,59 +72,135 @@ public final class Promise03Test {
         for (int n = 2; n <= 8; n++) {
             for (int locks = 0; locks < n; locks++) {
                 PolicyScript x = fed(locks);
-                String before = Due.view(x);
-                DUE.refused("join of too few", x, before, x.join(n, n), PolicyScript.ROOTS);
-                DUE.refused("join of too few", x, before, x.join(1, n), PolicyScript.ROOTS);
+                for (int k = 1; k <= n; k++) {
+                    DUE.is("join(" + k + ", " + n + ") of " + locks, x.join(k, n), PolicyScript.ROOTS);
+                }
+                DUE.same("after ROOTS", State.future(x), State.future(fed(locks)));
+            }
+            DUE.is("join(1, " + n + ") of just enough", fed(n).join(1, n), 1);
+        }
+        PolicyScript y = fed(4);
+        y.join(1, 3);
+        DUE.is("join(1, 3) of two roots and four locks", y.join(1, 3), PolicyScript.ROOTS);
+        DUE.is("join(1, 2) of two roots", y.join(1, 2), 1);
+        DUE.is("join(1, 2) of one root", y.join(1, 2), PolicyScript.ROOTS);
+    }
+
+    /** Of each size and, with seven joins of two, the longest policy there is. */
+    private static void tokenIsAppended() {
+        for (int n = 2; n <= 8; n++) {
+            for (int k = 1; k <= n; k++) {
+                PolicyScript x = fed(8);
+                x.join(k, n);
+                for (int i = 0; i < 16; i++) {
+                    int join = i == 8 ? 256 + (k - 1) * 8 + (n - 1) : 0;
+                    DUE.is("token(" + i + ")", x.token(i), i < 8 ? 128 + i : join);
+                }
             }
         }
-        PolicyScript x = fed(4);
-        x.join(1, 3);
-        String before = Due.view(x);
-        DUE.refused("join after a join", x, before, x.join(1, 3), PolicyScript.ROOTS);
-    }
-
-    private static void sealedPolicy() {
-        PolicyScript x = Due.hashes(1, 2);
-        String before = Due.view(x);
-        DUE.refused("join when sealed", x, before, x.join(1, 2), PolicyScript.SEALED);
-        DUE.refused("bad join when sealed", x, before, x.join(0, 0), PolicyScript.SEALED);
-    }
-
-    /** hash 0 and (hash 1 or hash 2): a join that took the first roots would be another policy. */
-    private static void lastRootsAreTaken() {
-        PolicyScript x = fed(3);
-        x.setTime(5);
-        x.hold(PolicyScript.HASH, 6, true);
-        DUE.is("join(1, 2)", x.join(1, 2), 2);
-        DUE.is("status()", x.status(), 5 + 2 * 64);
-        DUE.is("lock after a join", x.lock(PolicyScript.HASH, 3), 3);
-        DUE.is("join(1, 2) again", x.join(1, 2), 2);
-        DUE.is("join(2, 2)", x.join(2, 2), 1);
-        DUE.same("held", Due.held(x), "0000000000000010");
-        x.seal();
-        x.hold(PolicyScript.HASH, 1, true);
-        x.hold(PolicyScript.HASH, 2, true);
-        x.hold(PolicyScript.HASH, 3, true);
-        DUE.is("satisfy() without hash 0", x.satisfy(), PolicyScript.NONE);
-        x.hold(PolicyScript.HASH, 1, false);
-        x.hold(PolicyScript.HASH, 2, false);
-        x.hold(PolicyScript.HASH, 0, true);
-        DUE.is("satisfy() with 0 and 3", x.satisfy(), 20);
-    }
-
-    private static void longestPolicy() {
-        PolicyScript x = fed(8);
-        for (int i = 0; i < 7; i++) {
-            DUE.is("join " + i, x.join(2, 2), 7 - i);
-        }
+        PolicyScript y = fed(8);
         for (int i = 8; i < 15; i++) {
-            DUE.is("token(" + i + ")", x.token(i), 265);
+            y.join(2, 2);
+            DUE.is("token(" + i + ")", y.token(i), 265);
+            DUE.is("token(" + (i + 1) + ")", y.token(i + 1), 0);
         }
+    }
+
+    private static void lastRootsBecomeOne() {
+        for (int n = 2; n <= 8; n++) {
+            PolicyScript x = fed(8);
+            x.join(n, n);
+            DUE.is("status() after join(n, " + n + ")", x.status(), 64 * (9 - n));
+            if (n < 8) {
+                x.join(1, 9 - n);
+            }
+            x.seal();
+            for (int lock = 0; lock < 8; lock++) {
+                holdOnly(x, 1 << lock);
+                int due = lock < 8 - n ? 0 : PolicyScript.NONE;
+                DUE.is("hash " + lock + " with the last " + n + " joined", x.earliest(), due);
+            }
+            holdOnly(x, 256 - (1 << 8 - n));
+            DUE.is("the last " + n + " together", x.earliest(), 0);
+        }
+    }
+
+    /** hash 0, (hash 1 or hash 2), then that and hash 3: the joined root comes before hash 3. */
+    private static void newLastRoot() {
+        PolicyScript x = fed(3);
+        x.join(1, 2);
+        x.lock(PolicyScript.HASH, 3);
+        x.join(2, 2);
+        x.join(1, 2);
         x.seal();
-        for (int i = 0; i < 8; i++) {
-            DUE.is("earliest() with " + i, x.earliest(), PolicyScript.NONE);
-            x.hold(PolicyScript.HASH, i, true);
+        for (int mask = 0; mask < 16; mask++) {
+            holdOnly(x, mask);
+            boolean due = (mask & 1) != 0 || (mask & 8) != 0 && (mask & 6) != 0;
+            DUE.is("hash 0 or (3 and (1 or 2)), " + mask, x.earliest(), due ? 0 : PolicyScript.NONE);
         }
-        DUE.is("satisfy() with all", x.satisfy(), 80);
+    }
+
+    private static void atLeastK() {
+        for (int n = 2; n <= 8; n++) {
+            for (int k = 1; k <= n; k++) {
+                PolicyScript x = Due.hashes(k, n);
+                for (int mask = 0; mask < 1 << n; mask++) {
+                    holdOnly(x, mask);
+                    int due = Integer.bitCount(mask) >= k ? 0 : PolicyScript.NONE;
+                    DUE.is(k + " of " + n + " with mask " + mask, x.earliest(), due);
+                }
+            }
+        }
+    }
+
+    private static void answer() {
+        for (int locks = 2; locks <= 8; locks++) {
+            for (int n = 2; n <= locks; n++) {
+                for (int k = 1; k <= n; k++) {
+                    String call = "join(" + k + ", " + n + ") of " + locks;
+                    DUE.is(call, fed(locks).join(k, n), locks - n + 1);
+                }
+            }
+        }
+        PolicyScript x = fed(8);
+        for (int roots = 7; roots >= 1; roots--) {
+            DUE.is("join(1, 2)", x.join(1, 2), roots);
+        }
+    }
+
+    /** 1 of hashes 0 and 1, joined before anything else; then 2 of 2, 3; then both. */
+    private static void earlierRootsStay() {
+        PolicyScript x = fed(2);
+        x.join(1, 2);
+        x.lock(PolicyScript.HASH, 2);
+        x.lock(PolicyScript.HASH, 3);
+        x.join(2, 2);
+        x.join(2, 2);
+        x.seal();
+        for (int mask = 0; mask < 16; mask++) {
+            holdOnly(x, mask);
+            boolean due = (mask & 3) != 0 && (mask & 12) == 12;
+            DUE.is("(0 or 1) and 2 and 3, " + mask, x.earliest(), due ? 0 : PolicyScript.NONE);
+        }
+    }
+
+    private static void locksHeldAndClockStay() {
+        PolicyScript x = new PolicyScript(5, 10, 10, 10);
+        x.setTime(63);
+        x.hold(PolicyScript.KEY, 7, true);
+        x.hold(PolicyScript.HASH, 0, true);
+        for (int i = 0; i < 4; i++) {
+            x.lock(PolicyScript.HASH, i);
+        }
+        x.join(1, 4);
+        DUE.is("clock and roots", x.status(), 63 + 64);
+        DUE.same("held", Due.held(x), "0000000110000000");
+        DUE.is("the lock after four", x.lock(PolicyScript.KEY, 7), 4);
+        DUE.is("the lock after five", x.lock(PolicyScript.KEY, 7), PolicyScript.FULL);
+        x.join(2, 2);
+        DUE.is("the lock after five, joined", x.lock(PolicyScript.KEY, 7), PolicyScript.FULL);
+        x.seal();
+        x.satisfy();
+        DUE.same("slots", Due.slots(x), "128 0 0 0 71 0 0 0");
     }
 }

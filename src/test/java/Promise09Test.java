@@ -3,97 +3,147 @@ public final class Promise09Test {
     private static final Due DUE = new Due();
 
     public static void main(String[] args) {
-        draft();
-        whatIsAtHand();
-        leastWeight();
-        leastMask();
-        onlyNeeded();
+        DUE.sentence("1. The policy is not sealed: DRAFT.", Promise09Test::draft);
+        DUE.sentence("2. Let A be the set of the KEY and HASH locks whose secret (same kind and number)"
+            + " is held,", Promise09Test::heldSecrets);
+        DUE.sentence("together with the AFTER locks whose number is open.", Promise09Test::openTimes);
+        DUE.sentence("No subset of A is TRUE: NONE, and the slots stay as they were.",
+            Promise09Test::none);
+        DUE.sentence("3. Otherwise let S be the TRUE subset of A that is BETTER than every other TRUE"
+            + " subset of A.", Promise09Test::better);
+        DUE.sentence("Each lock in S gets its own code as the content of its slot, all other slots become"
+            + " empty,", Promise09Test::slots);
+        DUE.sentence("and the answer is the weight of S.", Promise09Test::answer);
+        DUE.sentence("The slots' contents before do not matter.", Promise09Test::slotsBefore);
+        DUE.sentence("The policy, what is held and the clock do not change.",
+            Promise09Test::allElseStays);
         DUE.end();
     }
 
     private static void draft() {
-        PolicyScript x = new PolicyScript(8, 1, 1, 1);
-        DUE.refused("satisfy() of nothing", x, Due.view(x), x.satisfy(), PolicyScript.DRAFT);
-        x.hold(1, 0, true);
-        x.lock(1, 0);
-        DUE.refused("satisfy() of a draft", x, Due.view(x), x.satisfy(), PolicyScript.DRAFT);
+        for (State state : State.drafts()) {
+            PolicyScript x = state.make();
+            DUE.is("satisfy() in " + state, x.satisfy(), PolicyScript.DRAFT);
+            DUE.still(state, "satisfy()", x);
+        }
     }
 
-    private static void whatIsAtHand() {
-        PolicyScript x = Due.keyAndOneOfThree();
-        x.hold(2, 2, true);
-        x.hold(1, 1, true);
-        DUE.refused("satisfy() without key 0", x, Due.view(x), x.satisfy(), PolicyScript.NONE);
-        x.place(3, 3, 9);
-        DUE.refused("satisfy() with a slot", x, Due.view(x), x.satisfy(), PolicyScript.NONE);
-        x.hold(1, 0, true);
-        DUE.is("satisfy() with key 0", x.satisfy(), 100);
-        DUE.same("slots, the placed one emptied", Due.slots(x), "64 0 130 0 0 0 0 0");
-        x.hold(2, 2, false);
-        DUE.is("satisfy() without hash 2", x.satisfy(), 140);
-        DUE.same("slots", Due.slots(x), "64 65 0 0 0 0 0 0");
-        x.setTime(19);
-        DUE.is("satisfy() at 19", x.satisfy(), 140);
-        x.setTime(20);
-        String held = Due.held(x);
-        DUE.is("satisfy() at 20", x.satisfy(), 75);
-        DUE.same("slots", Due.slots(x), "64 0 0 212 0 0 0 0");
-        DUE.same("held", Due.held(x), held);
-        DUE.is("status()", x.status(), 1024 + 64 + 20);
-        x.hold(1, 0, false);
-        DUE.refused("satisfy() without key 0", x, Due.view(x), x.satisfy(), PolicyScript.NONE);
+    /** One lock, and one secret held at a time: of the other kind or number it is of no use. */
+    private static void heldSecrets() {
+        for (int lock = 0; lock < 16; lock++) {
+            PolicyScript x = Due.single(1 + lock / 8, lock % 8);
+            x.setTime(63);
+            DUE.is("satisfy() with nothing", x.satisfy(), PolicyScript.NONE);
+            for (int secret = 0; secret < 16; secret++) {
+                x.hold(1 + secret / 8, secret % 8, true);
+                int due = secret != lock ? PolicyScript.NONE : lock < 8 ? 3 : 2;
+                DUE.is("satisfy() of " + lock + " with " + secret, x.satisfy(), due);
+                x.hold(1 + secret / 8, secret % 8, false);
+            }
+        }
     }
 
-    /** Two hashes of weight 30 each are less than a key of 70, and two of 40 each are more. */
-    private static void leastWeight() {
-        for (int hashWeight = 30; hashWeight <= 40; hashWeight += 10) {
-            PolicyScript x = new PolicyScript(8, 70, hashWeight, 5);
-            x.lock(1, 0);
-            x.lock(2, 0);
-            x.lock(2, 1);
+    private static void openTimes() {
+        for (int number = 0; number <= 63; number++) {
+            PolicyScript x = Due.single(PolicyScript.AFTER, number);
+            for (int clock = 63; clock >= 0; clock--) {
+                x.setTime(clock);
+                int due = number <= clock ? 1 : PolicyScript.NONE;
+                DUE.is("satisfy() of " + number + " at " + clock, x.satisfy(), due);
+            }
+        }
+    }
+
+    private static void none() {
+        PolicyScript x = State.NO_SIGNATURE.make();
+        DUE.is("satisfy() without key 0", x.satisfy(), PolicyScript.NONE);
+        DUE.same("slots", Due.slots(x), "0 0 130 212 0 0 0 0");
+        DUE.still(State.NO_SIGNATURE, "satisfy()", x);
+
+        PolicyScript y = State.FULL_SLOTS.make();
+        y.hold(PolicyScript.HASH, 2, false);
+        y.setTime(19);
+        DUE.is("satisfy() with key 0 alone", y.satisfy(), PolicyScript.NONE);
+        DUE.same("slots", Due.slots(y), "64 255 130 212 0 0 0 0");
+
+        PolicyScript z = Due.hashes(8, 8);
+        for (int i = 0; i < 8; i++) {
+            DUE.is("satisfy() with " + i + " of 8", z.satisfy(), PolicyScript.NONE);
+            z.hold(PolicyScript.HASH, i, true);
+        }
+        DUE.is("satisfy() with all 8", z.satisfy(), 80);
+    }
+
+    /** Key 0, or both hashes: weight decides, and at the same weight the mask, which is 1 and 6. */
+    private static void better() {
+        for (int hashWeight = 34; hashWeight <= 36; hashWeight++) {
+            PolicyScript x = Due.draft(new int[] {70, hashWeight, 5}, 64, 128, 129);
             x.join(2, 2);
             x.join(1, 2);
             x.seal();
-            x.hold(1, 0, true);
-            x.hold(2, 0, true);
-            x.hold(2, 1, true);
-            DUE.is("satisfy()", x.satisfy(), hashWeight == 30 ? 60 : 70);
-            DUE.same("slots", Due.slots(x), hashWeight == 30 ? "0 128 129 0 0 0 0 0" : "64 0 0 0 0 0 0 0");
+            Due.holdAll(x);
+            DUE.is("satisfy()", x.satisfy(), hashWeight == 34 ? 68 : 70);
+            String due = hashWeight == 34 ? "0 128 129 0 0 0 0 0" : "64 0 0 0 0 0 0 0";
+            DUE.same("slots with " + hashWeight, Due.slots(x), due);
+        }
+        for (int n = 2; n <= 8; n++) {
+            PolicyScript x = Due.hashes(n / 2, n);
+            Due.holdAll(x);
+            x.satisfy();
+            for (int i = 0; i < 8; i++) {
+                DUE.is("slot(" + i + ") of " + n, x.slot(i), i < n / 2 ? 128 + i : 0);
+            }
         }
     }
 
-    private static void leastMask() {
-        PolicyScript x = Due.hashes(2, 4);
-        for (int i = 0; i < 4; i++) {
-            x.hold(2, i, true);
-        }
-        DUE.is("satisfy() of equals", x.satisfy(), 20);
-        DUE.same("slots", Due.slots(x), "128 129 0 0 0 0 0 0");
-        x.hold(2, 0, false);
+    private static void slots() {
+        PolicyScript x = State.FULL_SLOTS.make();
         x.satisfy();
-        DUE.same("slots without hash 0", Due.slots(x), "0 129 130 0 0 0 0 0");
-
-        PolicyScript y = new PolicyScript(8, 20, 10, 10);
-        y.lock(2, 0);
-        y.lock(2, 1);
-        y.join(2, 2);
-        y.lock(1, 0);
-        y.join(1, 2);
-        y.seal();
-        y.hold(1, 0, true);
-        y.hold(2, 0, true);
-        y.hold(2, 1, true);
-        DUE.is("satisfy() of equal weights", y.satisfy(), 20);
-        DUE.same("slots, mask 3 before mask 4", Due.slots(y), "128 129 0 0 0 0 0 0");
+        DUE.same("slots at 21", Due.slots(x), "64 0 0 212 0 0 0 0");
+        x.setTime(19);
+        x.satisfy();
+        DUE.same("slots at 19", Due.slots(x), "64 0 130 0 0 0 0 0");
+        PolicyScript y = Due.hashes(8, 8);
+        Due.holdAll(y);
+        y.satisfy();
+        DUE.same("all eight slots", Due.slots(y), "128 129 130 131 132 133 134 135");
     }
 
-    private static void onlyNeeded() {
-        PolicyScript x = new PolicyScript(8, 9, 8, 7);
-        x.hold(1, 5, true);
-        x.lock(1, 5);
-        x.seal();
-        DUE.is("satisfy() of one key", x.satisfy(), 9);
-        DUE.is("satisfy() again", x.satisfy(), 9);
-        DUE.is("spend()", x.spend(), PolicyScript.ACCEPTED);
+    private static void answer() {
+        PolicyScript x = Due.keyAndOneOfThree();
+        x.hold(PolicyScript.KEY, 0, true);
+        x.hold(PolicyScript.KEY, 1, true);
+        DUE.is("satisfy() with two keys", x.satisfy(), 140);
+        x.hold(PolicyScript.HASH, 2, true);
+        DUE.is("satisfy() with a hash", x.satisfy(), 100);
+        x.setTime(20);
+        DUE.is("satisfy() at 20", x.satisfy(), 75);
+        for (int weight : new int[] {1, 99}) {
+            PolicyScript y = Due.draft(new int[] {weight, weight, weight}, 64, 65, 66, 67, 68, 69, 70, 71);
+            Due.holdAll(y);
+            y.join(8, 8);
+            y.seal();
+            DUE.is("satisfy() of eight at " + weight, y.satisfy(), 8 * weight);
+        }
+    }
+
+    private static void slotsBefore() {
+        for (State state : new State[] {State.JUST_SEALED, State.WITNESS, State.WRONG_SLOTS,
+            State.FULL_SLOTS, State.CLOCK_BACK}) {
+            PolicyScript x = state.make();
+            x.setTime(21);
+            DUE.is("satisfy() in " + state, x.satisfy(), 75);
+            DUE.is("satisfy() again in " + state, x.satisfy(), 75);
+            DUE.still(State.WITNESS, "satisfy() from " + state, x);
+        }
+    }
+
+    private static void allElseStays() {
+        for (State state : State.sealedOnes()) {
+            PolicyScript x = state.make();
+            String before = Due.viewWithoutSlots(x);
+            x.satisfy();
+            DUE.same("after satisfy() in " + state, Due.viewWithoutSlots(x), before);
+        }
     }
 }

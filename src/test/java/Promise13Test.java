@@ -3,106 +3,165 @@ public final class Promise13Test {
     private static final Due DUE = new Due();
 
     public static void main(String[] args) {
-        draft();
-        everyAnswer();
-        wrongComesFirst();
-        oneTooMany();
-        clockJudges();
+        DUE.sentence("1. The policy is not sealed: DRAFT.", Promise13Test::draft);
+        DUE.sentence("2. Let F be the set of locks whose slot is not empty. Some lock in F does not FIT:"
+            + " WRONG.", Promise13Test::wrong);
+        DUE.sentence("3. F is not TRUE: SHORT.", Promise13Test::tooShort);
+        DUE.sentence("This is the answer when all slots are empty.", Promise13Test::allEmpty);
+        DUE.sentence("4. F is not MINIMAL: LOOSE.", Promise13Test::loose);
+        DUE.sentence("5. Otherwise ACCEPTED.", Promise13Test::accepted);
+        DUE.sentence("What is held does not matter;", Promise13Test::heldDoesNotMatter);
+        DUE.sentence("the present clock does, through FITS.", Promise13Test::presentClock);
+        DUE.sentence("Nothing changes; in particular the witness stays and can be judged again.",
+            Promise13Test::nothingChanges);
         DUE.end();
     }
 
     private static void draft() {
-        PolicyScript x = new PolicyScript(8, 1, 1, 1);
-        x.lock(2, 0);
-        DUE.refused("spend() of a draft", x, Due.view(x), x.spend(), PolicyScript.DRAFT);
-    }
-
-    private static void judged(String when, PolicyScript x, int due) {
-        String before = Due.view(x);
-        DUE.is("spend() " + when, x.spend(), due);
-        DUE.is("spend() once more " + when, x.spend(), due);
-        DUE.same("after spend() " + when, Due.view(x), before);
-    }
-
-    private static void everyAnswer() {
-        PolicyScript x = Due.keyAndOneOfThree();
-        x.hold(1, 0, true);
-        x.hold(1, 1, true);
-        x.hold(2, 2, true);
-        judged("with empty slots", x, PolicyScript.SHORT);
-        x.place(0, 1, 0);
-        judged("with key 0", x, PolicyScript.SHORT);
-        x.place(1, 1, 1);
-        judged("with both keys", x, PolicyScript.ACCEPTED);
-        x.place(2, 2, 2);
-        judged("with both keys and the hash", x, PolicyScript.LOOSE);
-        x.place(1, 1, 0);
-        judged("with key 0 in slot 1", x, PolicyScript.WRONG);
-        x.place(1, 0, 0);
-        judged("with key 0 and the hash", x, PolicyScript.ACCEPTED);
-        x.hold(1, 0, false);
-        x.hold(2, 2, false);
-        judged("with nothing held", x, PolicyScript.ACCEPTED);
-        x.place(0, 0, 0);
-        judged("without key 0", x, PolicyScript.SHORT);
-    }
-
-    /** A lock that does not FIT decides, be F short or loose. */
-    private static void wrongComesFirst() {
-        PolicyScript x = Due.hashes(2, 3);
-        x.hold(2, 0, true);
-        x.hold(2, 1, true);
-        x.hold(2, 2, true);
-        x.place(2, 2, 0);
-        judged("with one wrong slot", x, PolicyScript.WRONG);
-        x.place(0, 2, 0);
-        x.place(1, 2, 1);
-        judged("with one wrong slot of three", x, PolicyScript.WRONG);
-        x.place(2, 2, 2);
-        judged("with three", x, PolicyScript.LOOSE);
-        x.place(0, 2, 1);
-        judged("with slot 0 wrong", x, PolicyScript.WRONG);
-    }
-
-    /** Two of three, one of them being (after 1 and after 60): after 1 alone is of no use. */
-    private static void oneTooMany() {
-        for (int spare = 0; spare < 3; spare++) {
-            PolicyScript x = new PolicyScript(8, 1, 1, 1);
-            x.setTime(9);
-            for (int i = 0; i < 3; i++) {
-                x.lock(3, i == spare ? 1 : 2);
-                if (i == spare) {
-                    x.lock(3, 60);
-                    x.join(2, 2);
-                }
-            }
-            x.join(2, 3);
-            x.seal();
-            for (int i = 0; i < 4; i++) {
-                int number = x.token(i > spare + 1 ? i + 1 : i) % 64;
-                if (number != 60) {
-                    x.place(i, 3, number);
-                }
-            }
-            judged("with the spare lock " + spare, x, PolicyScript.LOOSE);
-            x.place(spare, 0, 0);
-            judged("without the spare lock " + spare, x, PolicyScript.ACCEPTED);
+        for (State state : State.drafts()) {
+            PolicyScript x = state.make();
+            DUE.is("spend() in " + state, x.spend(), PolicyScript.DRAFT);
+            DUE.still(state, "spend()", x);
         }
     }
 
-    private static void clockJudges() {
-        PolicyScript x = new PolicyScript(8, 1, 1, 1);
-        x.lock(3, 0);
-        x.lock(3, 63);
-        x.join(1, 2);
-        x.seal();
-        x.place(1, 3, 63);
-        judged("at 0", x, PolicyScript.WRONG);
-        x.setTime(62);
-        judged("at 62", x, PolicyScript.WRONG);
-        x.setTime(63);
-        judged("at 63", x, PolicyScript.ACCEPTED);
-        x.place(0, 3, 0);
-        judged("with both", x, PolicyScript.LOOSE);
+    /** k of n hashes with the slots of a set filled. */
+    private static PolicyScript filled(int k, int n, int mask) {
+        PolicyScript x = Due.hashes(k, n);
+        Due.holdAll(x);
+        for (int i = 0; i < n; i++) {
+            if ((mask >> i & 1) == 1) {
+                x.place(i, PolicyScript.HASH, i);
+            }
+        }
+        return x;
+    }
+
+    /** One slot with a wrong content, be the others too few, just enough or too many. */
+    private static void wrong() {
+        for (int mask = 0; mask < 16; mask++) {
+            for (int lock = 0; lock < 4; lock++) {
+                for (int content : new int[] {64, 128 + (lock + 1) % 4, 192 + lock}) {
+                    PolicyScript x = filled(2, 4, mask);
+                    x.place(lock, content / 64, content % 64);
+                    DUE.is("spend() with " + content + " in " + lock, x.spend(), PolicyScript.WRONG);
+                }
+            }
+        }
+        for (int lock = 0; lock < 8; lock++) {
+            PolicyScript x = filled(8, 8, 255);
+            x.place(lock, PolicyScript.KEY, lock);
+            DUE.is("spend() with slot " + lock + " of 8 wrong", x.spend(), PolicyScript.WRONG);
+        }
+    }
+
+    private static void tooShort() {
+        for (int n = 2; n <= 8; n++) {
+            for (int k = 1; k <= n; k++) {
+                for (int mask = 0; mask < 1 << n; mask++) {
+                    if (Integer.bitCount(mask) < k) {
+                        DUE.is("spend() of " + mask, filled(k, n, mask).spend(), PolicyScript.SHORT);
+                    }
+                }
+            }
+        }
+    }
+
+    private static void allEmpty() {
+        for (int n = 2; n <= 8; n++) {
+            for (int k = 1; k <= n; k++) {
+                DUE.is("spend() just sealed", Due.hashes(k, n).spend(), PolicyScript.SHORT);
+                PolicyScript x = filled(k, n, (1 << n) - 1);
+                for (int i = 0; i < n; i++) {
+                    x.place(i, 0, 0);
+                }
+                DUE.is("spend() emptied", x.spend(), PolicyScript.SHORT);
+            }
+        }
+        for (int kind = 1; kind <= 3; kind++) {
+            PolicyScript x = Due.single(kind, 0);
+            Due.holdAll(x);
+            DUE.is("spend() of one empty slot", x.spend(), PolicyScript.SHORT);
+        }
+    }
+
+    private static void loose() {
+        for (int n = 2; n <= 8; n++) {
+            for (int k = 1; k <= n; k++) {
+                for (int mask = 0; mask < 1 << n; mask++) {
+                    if (Integer.bitCount(mask) > k) {
+                        DUE.is("spend() of " + mask, filled(k, n, mask).spend(), PolicyScript.LOOSE);
+                    }
+                }
+            }
+        }
+        uselessLock();
+    }
+
+    /** One of hash 0 and (hash 1 and hash 2): with hash 0, only one of the other two is of no use. */
+    private static void uselessLock() {
+        for (int useless = 1; useless <= 2; useless++) {
+            PolicyScript x = Due.draft(new int[] {1, 1, 1}, 128, 129, 130);
+            x.join(2, 2);
+            x.join(1, 2);
+            x.seal();
+            Due.holdAll(x);
+            x.place(useless, PolicyScript.HASH, useless);
+            DUE.is("spend() of one of two", x.spend(), PolicyScript.SHORT);
+            x.place(0, PolicyScript.HASH, 0);
+            DUE.is("spend() with a useless lock", x.spend(), PolicyScript.LOOSE);
+        }
+    }
+
+    private static void accepted() {
+        for (int n = 2; n <= 8; n++) {
+            for (int k = 1; k <= n; k++) {
+                for (int mask = 0; mask < 1 << n; mask++) {
+                    if (Integer.bitCount(mask) == k) {
+                        DUE.is("spend() of " + mask, filled(k, n, mask).spend(), PolicyScript.ACCEPTED);
+                    }
+                }
+            }
+        }
+        DUE.is("spend() in WITNESS", State.WITNESS.make().spend(), PolicyScript.ACCEPTED);
+    }
+
+    private static void heldDoesNotMatter() {
+        for (State state : State.sealedOnes()) {
+            PolicyScript x = state.make();
+            int due = x.spend();
+            Due.holdAll(x);
+            DUE.is("spend() with all held, " + state, x.spend(), due);
+            for (int number = 0; number < 8; number++) {
+                x.hold(PolicyScript.KEY, number, false);
+                x.hold(PolicyScript.HASH, number, false);
+            }
+            DUE.is("spend() with nothing held, " + state, x.spend(), due);
+        }
+    }
+
+    private static void presentClock() {
+        for (int number = 0; number <= 63; number++) {
+            PolicyScript x = Due.single(PolicyScript.AFTER, number);
+            x.place(0, PolicyScript.AFTER, number);
+            for (int clock = 0; clock <= 63; clock++) {
+                x.setTime(clock);
+                int due = number <= clock ? PolicyScript.ACCEPTED : PolicyScript.WRONG;
+                DUE.is("spend() of " + number + " at " + clock, x.spend(), due);
+            }
+        }
+        PolicyScript y = State.CLOCK_BACK.make();
+        DUE.is("spend() at 19", y.spend(), PolicyScript.WRONG);
+        y.setTime(20);
+        DUE.is("spend() at 20", y.spend(), PolicyScript.ACCEPTED);
+    }
+
+    private static void nothingChanges() {
+        for (State state : State.values()) {
+            PolicyScript x = state.make();
+            int first = x.spend();
+            DUE.is("spend() again in " + state, x.spend(), first);
+            DUE.still(state, "spend()", x);
+        }
     }
 }
