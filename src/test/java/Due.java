@@ -165,6 +165,21 @@ final class Due {
         return x;
     }
 
+    /** One of eight hashes, all held; but two that follow each other count together only. */
+    static PolicyScript onePairOfEight(int first) {
+        PolicyScript x = new PolicyScript(8, 10, 10, 10);
+        for (int i = 0; i < 8; i++) {
+            x.lock(PolicyScript.HASH, i);
+            if (i == first + 1) {
+                x.join(2, 2);
+            }
+        }
+        x.join(1, 7);
+        x.seal();
+        holdAll(x);
+        return x;
+    }
+
     /** A sealed policy of one lock, with the weights 3, 2 and 1. */
     static PolicyScript single(int kind, int number) {
         PolicyScript x = new PolicyScript(8, 3, 2, 1);

@@ -12,7 +12,7 @@ import java.util.TreeSet;
 import java.util.regex.Matcher;
 import java.util.regex.Pattern;
 
-/** The rules of LANGUAGE.md that a program can look at, and the public face of the document. */
+/** The public face of the document, and the rules of LANGUAGE.md that a program can look at. */
 public final class LanguageTest {
     private static final String SOURCE = "src/main/java/PolicyScript.java";
     private static final String FACE = "earliest() hold(int,int,boolean) holds(int,int) join(int,int)"
@@ -21,105 +21,127 @@ public final class LanguageTest {
     private static final String CONSTANTS = "ACCEPTED AFTER BAD DRAFT FULL HASH KEY LOOSE NONE ROOTS"
         + " SEALED SHORT SIGNED UNSIGNED WRONG";
     private static final Set<String> NOT_CALLS = Set.of("if", "for", "while", "switch", "return");
+    private static final int MOST_LINES = 60;
+    private static final int MOST_DEPTH = 6;
+    private static final int MOST_FIELDS = 40;
+    private static final int MOST_PARAMETERS = 7;
     private static final Due DUE = new Due();
 
     public static void main(String[] args) throws IOException {
-        face();
-        fields();
         String code = Files.readString(Path.of(SOURCE)).replaceAll("(?s)/\\*.*?\\*/|//[^\n]*", "");
-        words(code);
         Map<String, String> bodies = bodies(code);
-        calls(bodies);
-        nestedCalls(code);
+        DUE.sentence("The public face", LanguageTest::face);
+        DUE.sentence("rule 1: no nested class, and no private method bears the name of a public one",
+            LanguageTest::privateMembers);
+        DUE.sentence("rules 2, 3 and 6: numbers and arrays of numbers alone, no library, no exceptions",
+            () -> words(code));
+        DUE.sentence("rule 4: arrays are made in a field's initialiser or in the constructor",
+            () -> arrays(bodies));
+        DUE.sentence("rule 5: static fields are constants of int or long", LanguageTest::staticFields);
+        DUE.sentence("rule 8: no recursion; rule 10: calls go at most six deep", () -> depths(bodies));
+        DUE.sentence("rule 10: methods stay short, parameters and fields are few",
+            () -> sizes(bodies));
+        DUE.sentence("rule 10: no call stands inside the arguments of another call",
+            () -> nestedCalls(code));
         DUE.end();
     }
 
     private static void face() {
         Set<String> open = new TreeSet<>();
-        Set<String> openNames = new TreeSet<>();
         for (Method method : PolicyScript.class.getDeclaredMethods()) {
             if (!Modifier.isPrivate(method.getModifiers())) {
                 String whole = method.toString();
                 open.add(method.getName() + whole.substring(whole.indexOf('(')));
-                openNames.add(method.getName());
                 String answer = method.getName().equals("reopen") ? "void" : "int";
                 DUE.same("answer of " + whole, method.getReturnType().getName(), answer);
+                DUE.is("public " + whole, Modifier.isPublic(method.getModifiers()) ? 1 : 0, 1);
             }
         }
         DUE.same("public methods", String.join(" ", open), FACE);
-        for (Method method : PolicyScript.class.getDeclaredMethods()) {
-            if (Modifier.isPrivate(method.getModifiers()) && openNames.contains(method.getName())) {
-                DUE.same("rule 1", method.toString(), "no private method with a public name");
+        Set<String> constants = new TreeSet<>();
+        for (Field field : PolicyScript.class.getDeclaredFields()) {
+            if (!Modifier.isPrivate(field.getModifiers())) {
+                constants.add(field.getName());
+                DUE.same("type of " + field.getName(), field.getType().getName(), "int");
             }
-            DUE.is("rule 10, parameters past seven", Math.max(0, method.getParameterCount() - 7), 0);
         }
+        DUE.same("public constants", String.join(" ", constants), CONSTANTS);
         DUE.is("constructors", PolicyScript.class.getDeclaredConstructors().length, 1);
-        DUE.is("rule 1, nested classes", PolicyScript.class.getDeclaredClasses().length, 0);
         DUE.is("final class", Modifier.isFinal(PolicyScript.class.getModifiers()) ? 1 : 0, 1);
     }
 
-    private static void fields() {
-        Set<String> open = new TreeSet<>();
-        int kept = 0;
-        for (Field field : PolicyScript.class.getDeclaredFields()) {
-            int marks = field.getModifiers();
-            if (!Modifier.isPrivate(marks)) {
-                open.add(field.getName());
-            }
-            if (Modifier.isStatic(marks)) {
-                DUE.same("rule 5, " + field.getName(), field.getType().getName(), "int");
-            } else {
-                kept++;
-            }
+    private static void privateMembers() {
+        for (Method method : PolicyScript.class.getDeclaredMethods()) {
+            boolean openName = (" " + FACE).contains(" " + method.getName() + "(");
+            boolean bad = openName && Modifier.isPrivate(method.getModifiers());
+            DUE.is("private method with a public name, " + method, bad ? 1 : 0, 0);
         }
-        DUE.same("public constants", String.join(" ", open), CONSTANTS);
-        DUE.is("rule 10, fields past forty", Math.max(0, kept - 40), 0);
+        DUE.is("nested classes", PolicyScript.class.getDeclaredClasses().length, 0);
     }
 
     private static void words(String code) {
-        String[] barred = {"import", "package", "String", "Math", "Integer", "System", "Arrays",
-            "Object", "float", "double", "throw", "throws", "try", "catch", "synchronized", "assert",
-            "instanceof", "null", "enum", "record", "interface", "length", "var"};
+        String[] barred = {"import", "package", "float", "double", "throw", "throws", "try", "catch",
+            "synchronized", "assert", "instanceof", "null", "enum", "interface"};
         for (String word : barred) {
             boolean found = Pattern.compile("\\b" + word + "\\b").matcher(code).find();
-            DUE.is("rules 1 to 6, '" + word + "' in the source", found ? 1 : 0, 0);
+            DUE.is("'" + word + "' in the source", found ? 1 : 0, 0);
         }
-        DUE.is("rule 6, '->' or '::'", code.contains("->") || code.contains("::") ? 1 : 0, 0);
-        for (String line : code.split("\n")) {
-            if (line.matches(".*\\bnew\\b.*")) {
-                boolean field = line.matches(" {4}private final int\\[\\] \\w+ = new int\\[[A-Z_]+\\];");
-                DUE.is("rule 4, " + line.trim(), field ? 1 : 0, 1);
+        DUE.is("'->' or '::' in the source", code.contains("->") || code.contains("::") ? 1 : 0, 0);
+        DUE.is("'\"' in the source", code.contains("\"") ? 1 : 0, 0);
+        Matcher classes = Pattern.compile("\\b[A-Z]\\w*[a-z]\\w*").matcher(code);
+        while (classes.find()) {
+            DUE.same("class named in the source", classes.group(), "PolicyScript");
+        }
+    }
+
+    private static void arrays(Map<String, String> bodies) {
+        for (String name : bodies.keySet()) {
+            if (!name.equals("PolicyScript")) {
+                boolean makes = bodies.get(name).matches("(?s).*\\bnew\\b.*");
+                DUE.is("'new' in " + name, makes ? 1 : 0, 0);
             }
         }
     }
 
-    /** What stands in each method, found by the four spaces before its first and last line. */
-    private static Map<String, String> bodies(String code) {
-        Map<String, String> bodies = new HashMap<>();
-        Pattern method = Pattern.compile(
-            "(?ms)^ {4}(?:public|private)(?: static)?(?: \\w+)? (\\w+)\\([^)]*\\) \\{\n(.*?)^ {4}\\}");
-        Matcher found = method.matcher(code);
-        while (found.find()) {
-            bodies.put(found.group(1), found.group(2));
-            int lines = found.group(2).split("\n").length;
-            DUE.is("rule 10, lines past sixty in " + found.group(1), Math.max(0, lines - 60), 0);
+    private static void staticFields() {
+        for (Field field : PolicyScript.class.getDeclaredFields()) {
+            if (Modifier.isStatic(field.getModifiers())) {
+                String type = field.getType().getName();
+                DUE.is(type + " " + field.getName(), type.matches("int|long") ? 1 : 0, 1);
+                DUE.is("final " + field.getName(), Modifier.isFinal(field.getModifiers()) ? 1 : 0, 1);
+            }
         }
+    }
+
+    private static void sizes(Map<String, String> bodies) {
         int methods = PolicyScript.class.getDeclaredMethods().length;
-        DUE.is("methods found in the source", bodies.size(), methods + 1);
-        return bodies;
-    }
-
-    private static void calls(Map<String, String> bodies) {
+        DUE.is("methods and constructor found in the source", bodies.size(), methods + 1);
         for (String name : bodies.keySet()) {
-            boolean deep = depth(name, bodies, 1) > 6;
-            DUE.is("rules 8 and 10, recursion or too deep from " + name, deep ? 1 : 0, 0);
+            int lines = bodies.get(name).strip().split("\n").length;
+            DUE.is("lines too many in " + name, Math.max(0, lines - MOST_LINES), 0);
+        }
+        int kept = 0;
+        for (Field field : PolicyScript.class.getDeclaredFields()) {
+            kept += Modifier.isStatic(field.getModifiers()) ? 0 : 1;
+        }
+        DUE.is("fields too many", Math.max(0, kept - MOST_FIELDS), 0);
+        for (Method method : PolicyScript.class.getDeclaredMethods()) {
+            int more = method.getParameterCount() - MOST_PARAMETERS;
+            DUE.is("parameters too many of " + method, Math.max(0, more), 0);
         }
     }
 
-    /** Stops past six, so a recursion shows as too deep. */
+    private static void depths(Map<String, String> bodies) {
+        for (String name : bodies.keySet()) {
+            boolean deep = depth(name, bodies, 1) > MOST_DEPTH;
+            DUE.is("recursion or too deep from " + name, deep ? 1 : 0, 0);
+        }
+    }
+
+    /** Stops past the greatest depth, so a recursion shows as too deep. */
     private static int depth(String name, Map<String, String> bodies, int above) {
         int deepest = above;
-        if (above <= 6) {
+        if (above <= MOST_DEPTH) {
             for (String called : called(bodies.get(name))) {
                 if (bodies.containsKey(called)) {
                     deepest = Math.max(deepest, depth(called, bodies, above + 1));
@@ -129,28 +151,44 @@ public final class LanguageTest {
         return deepest;
     }
 
-    private static List<String> called(String body) {
-        return Pattern.compile("\\b(\\w+)\\(").matcher(body).results()
-            .map(match -> match.group(1)).filter(word -> !NOT_CALLS.contains(word)).toList();
-    }
-
     private static void nestedCalls(String code) {
-        Matcher call = Pattern.compile("\\b(\\w+)\\(").matcher(code);
+        Matcher call = Pattern.compile("\\b(\\w+)\\s*\\(").matcher(code);
         while (call.find()) {
             if (!NOT_CALLS.contains(call.group(1))) {
-                String inside = upToClosing(code, call.end());
-                DUE.is("rule 10, calls inside " + call.group(1) + "(" + inside, called(inside).size(), 0);
+                String inside = code.substring(call.end(), closing(code, call.end(), '(', ')'));
+                DUE.is("calls inside " + call.group(1) + "(" + inside + ")", called(inside).size(), 0);
             }
         }
     }
 
-    private static String upToClosing(String code, int from) {
+    private static List<String> called(String body) {
+        return Pattern.compile("\\b(\\w+)\\s*\\(").matcher(body).results()
+            .map(match -> match.group(1)).filter(word -> !NOT_CALLS.contains(word)).toList();
+    }
+
+    /** What stands between the braces of each method and of the constructor. */
+    private static Map<String, String> bodies(String code) {
+        Map<String, String> bodies = new HashMap<>();
+        Matcher head = Pattern.compile("\\b(\\w+)\\s*\\([^()]*\\)\\s*\\{").matcher(code);
+        int at = code.indexOf('{') + 1;
+        while (head.find(at)) {
+            int end = closing(code, head.end(), '{', '}');
+            bodies.put(head.group(1), code.substring(head.end(), end));
+            at = end;
+        }
+        return bodies;
+    }
+
+    private static int closing(String code, int from, char opening, char closing) {
         int open = 1;
         int at = from;
-        while (open > 0 && at < code.length()) {
-            open += code.charAt(at) == '(' ? 1 : code.charAt(at) == ')' ? -1 : 0;
+        while (at < code.length()) {
+            open += code.charAt(at) == opening ? 1 : code.charAt(at) == closing ? -1 : 0;
+            if (open == 0) {
+                return at;
+            }
             at++;
         }
-        return code.substring(from, at);
+        return at;
     }
 }

@@ -10,7 +10,7 @@ public final class Promise03Test {
         DUE.sentence("4. Otherwise the join token is appended,", Promise03Test::tokenIsAppended);
         DUE.sentence("the last n roots become one", Promise03Test::lastRootsBecomeOne);
         DUE.sentence("(the new last root,", Promise03Test::newLastRoot);
-        DUE.sentence("true exactly when at least k of those n are true),", Promise03Test::atLeastK);
+        DUE.sentence("true exactly when at least k of those n are true),", () -> Joins.atLeastK(DUE));
         DUE.sentence("and the answer is the number of roots there are now.", Promise03Test::answer);
         DUE.sentence("Earlier roots stay as they are.", Promise03Test::earlierRootsStay);
         DUE.sentence("The number of locks and their numbering do not change, nor what is held, nor the"
@@ -24,12 +24,6 @@ public final class Promise03Test {
             x.lock(PolicyScript.HASH, i);
         }
         return x;
-    }
-
-    private static void holdOnly(PolicyScript x, int mask) {
-        for (int i = 0; i < 8; i++) {
-            x.hold(PolicyScript.HASH, i, (mask >> i & 1) == 1);
-        }
     }
 
     private static void sealed() {
@@ -111,18 +105,8 @@ public final class Promise03Test {
             PolicyScript x = fed(8);
             x.join(n, n);
             DUE.is("status() after join(n, " + n + ")", x.status(), 64 * (9 - n));
-            if (n < 8) {
-                x.join(1, 9 - n);
-            }
-            x.seal();
-            for (int lock = 0; lock < 8; lock++) {
-                holdOnly(x, 1 << lock);
-                int due = lock < 8 - n ? 0 : PolicyScript.NONE;
-                DUE.is("hash " + lock + " with the last " + n + " joined", x.earliest(), due);
-            }
-            holdOnly(x, 256 - (1 << 8 - n));
-            DUE.is("the last " + n + " together", x.earliest(), 0);
         }
+        Joins.lastRoots(DUE);
     }
 
     /** hash 0, (hash 1 or hash 2), then that and hash 3: the joined root comes before hash 3. */
@@ -134,22 +118,8 @@ public final class Promise03Test {
         x.join(1, 2);
         x.seal();
         for (int mask = 0; mask < 16; mask++) {
-            holdOnly(x, mask);
-            boolean due = (mask & 1) != 0 || (mask & 8) != 0 && (mask & 6) != 0;
-            DUE.is("hash 0 or (3 and (1 or 2)), " + mask, x.earliest(), due ? 0 : PolicyScript.NONE);
-        }
-    }
-
-    private static void atLeastK() {
-        for (int n = 2; n <= 8; n++) {
-            for (int k = 1; k <= n; k++) {
-                PolicyScript x = Due.hashes(k, n);
-                for (int mask = 0; mask < 1 << n; mask++) {
-                    holdOnly(x, mask);
-                    int due = Integer.bitCount(mask) >= k ? 0 : PolicyScript.NONE;
-                    DUE.is(k + " of " + n + " with mask " + mask, x.earliest(), due);
-                }
-            }
+            boolean want = (mask & 1) != 0 || (mask & 8) != 0 && (mask & 6) != 0;
+            Joins.isTrue(DUE, "hash 0 or (3 and (1 or 2))", x, mask, want);
         }
     }
 
@@ -168,19 +138,26 @@ public final class Promise03Test {
         }
     }
 
-    /** 1 of hashes 0 and 1, joined before anything else; then 2 of 2, 3; then both. */
+    /** (0 or 1), 2, (3 and 4), (one of 5, 6, 7): at least j of these, the joins fed in between. */
     private static void earlierRootsStay() {
-        PolicyScript x = fed(2);
-        x.join(1, 2);
-        x.lock(PolicyScript.HASH, 2);
-        x.lock(PolicyScript.HASH, 3);
-        x.join(2, 2);
-        x.join(2, 2);
-        x.seal();
-        for (int mask = 0; mask < 16; mask++) {
-            holdOnly(x, mask);
-            boolean due = (mask & 3) != 0 && (mask & 12) == 12;
-            DUE.is("(0 or 1) and 2 and 3, " + mask, x.earliest(), due ? 0 : PolicyScript.NONE);
+        for (int j = 1; j <= 4; j++) {
+            PolicyScript x = fed(2);
+            x.join(1, 2);
+            for (int i = 2; i < 5; i++) {
+                x.lock(PolicyScript.HASH, i);
+            }
+            x.join(2, 2);
+            for (int i = 5; i < 8; i++) {
+                x.lock(PolicyScript.HASH, i);
+            }
+            DUE.is("join(1, 3)", x.join(1, 3), 4);
+            x.join(j, 4);
+            x.seal();
+            for (int mask = 0; mask < 256; mask++) {
+                int roots = ((mask & 3) != 0 ? 1 : 0) + (mask >> 2 & 1)
+                    + ((mask & 24) == 24 ? 1 : 0) + (mask > 31 ? 1 : 0);
+                Joins.isTrue(DUE, j + " of four roots", x, mask, roots >= j);
+            }
         }
     }
 

@@ -54,7 +54,20 @@ public final class Promise05Test {
         }
     }
 
+    /** The longest policy, often enough for anything that is left behind to pile up. */
     private static void numbersBeginAgain() {
+        PolicyScript longest = new PolicyScript(8, 1, 1, 1);
+        for (int round = 0; round < 1000; round++) {
+            for (int i = 0; i < 8; i++) {
+                DUE.is("lock " + i + " in round " + round, longest.lock(PolicyScript.AFTER, 0), i);
+            }
+            for (int roots = 7; roots >= 1; roots--) {
+                DUE.is("join in round " + round, longest.join(2, 2), roots);
+            }
+            longest.seal();
+            DUE.is("satisfy() in round " + round, longest.satisfy(), 8);
+            longest.reopen();
+        }
         for (State state : State.values()) {
             PolicyScript x = state.make();
             for (int round = 0; round < 3; round++) {

@@ -38,8 +38,9 @@ public final class Promise08Test {
     }
 
     private static void clockIsTime() {
-        for (int time = 0; time <= 63; time++) {
-            PolicyScript x = Due.single(PolicyScript.AFTER, 31);
+        PolicyScript x = Due.single(PolicyScript.AFTER, 31);
+        for (int i = 0; i <= 126; i++) {
+            int time = Math.abs(63 - i);
             x.setTime(time);
             DUE.is("status() at " + time, x.status(), 1024 + 64 + time);
             DUE.is("satisfy() at " + time, x.satisfy(), time >= 31 ? 1 : PolicyScript.NONE);

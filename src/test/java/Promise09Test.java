@@ -136,6 +136,15 @@ public final class Promise09Test {
             DUE.is("satisfy() again in " + state, x.satisfy(), 75);
             DUE.still(State.WITNESS, "satisfy() from " + state, x);
         }
+        for (int filled = 0; filled < 16; filled++) {
+            for (int content : new int[] {64, 130, 212, 255}) {
+                PolicyScript x = State.JUST_SEALED.make();
+                for (int i = 0; i < 4; i++) {
+                    x.place(i, (filled >> i & 1) * content / 64, content % 64);
+                }
+                DUE.is("satisfy() with " + content + " in " + filled, x.satisfy(), 75);
+            }
+        }
     }
 
     private static void allElseStays() {

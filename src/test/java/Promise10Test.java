@@ -59,6 +59,20 @@ public final class Promise10Test {
                 DUE.same("slots, F being " + pair + " with " + content, Due.slots(x), due);
             }
         }
+        outsideTheOnlookersSet();
+    }
+
+    /** After 63 is filled and not open: it belongs to F all the same, so F is not {0}. */
+    private static void outsideTheOnlookersSet() {
+        PolicyScript x = Due.draft(new int[] {3, 2, 1}, 128, 255);
+        x.join(1, 2);
+        x.seal();
+        Due.holdAll(x);
+        x.place(0, PolicyScript.HASH, 0);
+        DUE.is("malleate() of {0}", x.malleate(), PolicyScript.NONE);
+        x.place(1, PolicyScript.AFTER, 63);
+        DUE.is("malleate() of {0, 1}", x.malleate(), 2);
+        DUE.same("slots", Due.slots(x), "128 0 0 0 0 0 0 0");
     }
 
     /** One of eight keys; key 0 .. 7 is shown in each slot in turn. */
@@ -76,12 +90,16 @@ public final class Promise10Test {
                 DUE.is("slot(" + (7 - key) + ")", x.slot(7 - key), 0);
             }
         }
-        PolicyScript y = Due.single(PolicyScript.KEY, 3);
+        PolicyScript y = Due.draft(new int[] {3, 2, 1}, 67, 68);
+        y.join(1, 2);
+        y.seal();
         Due.holdAll(y);
         DUE.is("malleate() with no key shown", y.malleate(), PolicyScript.NONE);
-        y.place(0, PolicyScript.HASH, 3);
-        DUE.is("malleate() with hash 3 shown", y.malleate(), PolicyScript.NONE);
-        DUE.is("slot(0)", y.slot(0), 131);
+        for (int content : new int[] {131, 195, 66, 71}) {
+            y.place(1, content / 64, content % 64);
+            DUE.is("malleate() with " + content + " shown", y.malleate(), PolicyScript.NONE);
+            DUE.is("slot(1)", y.slot(1), content);
+        }
     }
 
     private static void everyHash() {
@@ -123,6 +141,14 @@ public final class Promise10Test {
         String before = Due.view(y);
         DUE.is("malleate() with no other set", y.malleate(), PolicyScript.NONE);
         DUE.same("after NONE", Due.view(y), before);
+
+        PolicyScript z = Due.draft(new int[] {10, 10, 10}, 128, 129, 64);
+        z.join(2, 2);
+        z.join(1, 2);
+        z.seal();
+        DUE.is("malleate() of hash 0, or hash 1 and key 0", z.malleate(), 10);
+        DUE.is("malleate() where {0, 1} is TRUE and not MINIMAL", z.malleate(), PolicyScript.NONE);
+        DUE.same("slots", Due.slots(z), "128 0 0 0 0 0 0 0");
     }
 
     private static void noneAtAll() {

@@ -98,18 +98,22 @@ public final class Promise13Test {
         uselessLock();
     }
 
-    /** One of hash 0 and (hash 1 and hash 2): with hash 0, only one of the other two is of no use. */
+    /** Each lock in turn is the only one that can be taken out. */
     private static void uselessLock() {
-        for (int useless = 1; useless <= 2; useless++) {
-            PolicyScript x = Due.draft(new int[] {1, 1, 1}, 128, 129, 130);
-            x.join(2, 2);
-            x.join(1, 2);
-            x.seal();
-            Due.holdAll(x);
-            x.place(useless, PolicyScript.HASH, useless);
-            DUE.is("spend() of one of two", x.spend(), PolicyScript.SHORT);
-            x.place(0, PolicyScript.HASH, 0);
-            DUE.is("spend() with a useless lock", x.spend(), PolicyScript.LOOSE);
+        for (int pair = 0; pair < 7; pair++) {
+            for (int useless = pair; useless <= pair + 1; useless++) {
+                for (int needed = 0; needed < 8; needed++) {
+                    if (needed == pair || needed == pair + 1) {
+                        continue;
+                    }
+                    PolicyScript x = Due.onePairOfEight(pair);
+                    x.place(useless, PolicyScript.HASH, useless);
+                    DUE.is("spend() of half a pair", x.spend(), PolicyScript.SHORT);
+                    x.place(needed, PolicyScript.HASH, needed);
+                    String call = "spend() with " + useless + " of no use beside " + needed;
+                    DUE.is(call, x.spend(), PolicyScript.LOOSE);
+                }
+            }
         }
     }
 

@@ -13,7 +13,7 @@ public final class Promise17Test {
     }
 
     private static void anyState() {
-        int[] roots = {0, 0, 1, 2, 4, 1, 0, 1, 1, 1, 1, 1, 1};
+        int[] roots = {0, 0, 1, 2, 4, 1, 0, 1, 1, 1, 1, 1, 1, 1};
         for (State state : State.values()) {
             int clock = state == State.START ? 0 : state == State.CLOCK_BACK ? 19 : 21;
             int due = clock + 64 * roots[state.ordinal()] + (state.isSealed() ? 1024 : 0);

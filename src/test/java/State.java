@@ -6,7 +6,7 @@ import java.util.Arrays;
  */
 enum State {
     START, EMPTY_DRAFT, ONE_ROOT, TWO_ROOTS, FULL_DRAFT, JOINED_DRAFT, REOPENED,
-    JUST_SEALED, WITNESS, WRONG_SLOTS, FULL_SLOTS, CLOCK_BACK, NO_SIGNATURE;
+    JUST_SEALED, WITNESS, WRONG_SLOTS, FULL_SLOTS, LOOSE_SLOTS, CLOCK_BACK, NO_SIGNATURE;
 
     boolean isSealed() {
         return compareTo(JUST_SEALED) >= 0;
@@ -25,10 +25,10 @@ enum State {
         if (this == START) {
             return x;
         }
+        x.setTime(21);
         x.hold(PolicyScript.KEY, 0, true);
         x.hold(PolicyScript.KEY, 5, true);
         x.hold(PolicyScript.HASH, 2, true);
-        x.setTime(21);
         if (this != EMPTY_DRAFT) {
             feed(x);
         }
@@ -72,8 +72,10 @@ enum State {
             x.place(3, PolicyScript.KEY, 0);
         }
         if (this == FULL_SLOTS) {
-            x.place(0, PolicyScript.KEY, 0);
             x.place(1, PolicyScript.AFTER, 63);
+        }
+        if (this == FULL_SLOTS || this == LOOSE_SLOTS) {
+            x.place(0, PolicyScript.KEY, 0);
             x.place(2, PolicyScript.HASH, 2);
             x.place(3, PolicyScript.AFTER, 20);
         }
@@ -84,10 +86,14 @@ enum State {
         }
     }
 
-    /** What a run of further calls answers: objects that differ in anything differ in it. */
+    /**
+     * What a run of further calls answers: objects that differ in anything differ in it. Calls that
+     * read come late, so that what an earlier one of them altered is not altered here once more.
+     */
     static String future(PolicyScript x) {
-        StringBuilder told = new StringBuilder(Due.view(x));
+        StringBuilder told = new StringBuilder();
         use(x, told);
+        told.append(' ').append(Due.view(x));
         told.append(" lock ").append(x.lock(PolicyScript.HASH, 2));
         told.append(" join ").append(x.join(1, 2)).append(' ').append(x.join(3, 4));
         told.append(" seal ").append(x.seal());
@@ -105,7 +111,7 @@ enum State {
 
     private static void use(PolicyScript x, StringBuilder told) {
         told.append(" spend ").append(x.spend()).append(" variants ").append(x.variants());
-        told.append(" earliest ").append(x.earliest());
+        told.append(" earliest ").append(x.earliest()).append(": ").append(Due.slots(x));
         for (int i = 0; i < 2; i++) {
             told.append(" malleate ").append(x.malleate()).append(": ").append(Due.slots(x));
         }

@@ -10,9 +10,9 @@ public final class WordsTest {
         DUE.sentence("The code of a fit pair is kind * 64 + number.", WordsTest::codes);
         DUE.sentence("A lock token makes a new last root.", WordsTest::lockIsLastRoot);
         DUE.sentence("A join token (k, n) takes away the last n roots and makes one new last root,",
-            WordsTest::joinTakesLastRoots);
+            () -> Joins.lastRoots(DUE));
         DUE.sentence("which is true exactly when at least k of those n are true (k = n is \"and\", k = 1"
-            + " is \"or\").", WordsTest::atLeastK);
+            + " is \"or\").", () -> Joins.atLeastK(DUE));
         DUE.sentence("The code of a join token is 256 + (k - 1) * 8 + (n - 1).", WordsTest::joinCodes);
         DUE.sentence("Locks are numbered 0, 1, 2 .. in the order they were fed.",
             WordsTest::lockNumbers);
@@ -117,44 +117,6 @@ public final class WordsTest {
         DUE.is("earliest() with hash 2", x.earliest(), 0);
     }
 
-    /** Hashes 0 .. 7, the last n of them joined by "and", that joined with the others by "or". */
-    private static void joinTakesLastRoots() {
-        for (int n = 2; n <= 7; n++) {
-            PolicyScript x = new PolicyScript(8, 10, 10, 10);
-            for (int i = 0; i < 8; i++) {
-                x.lock(PolicyScript.HASH, i);
-            }
-            DUE.is("join(" + n + ", " + n + ")", x.join(n, n), 9 - n);
-            DUE.is("join(1, " + (9 - n) + ")", x.join(1, 9 - n), 1);
-            x.seal();
-            for (int i = 0; i < 8; i++) {
-                x.hold(PolicyScript.HASH, i, true);
-                DUE.is("earliest() with " + i, x.earliest(), i < 8 - n ? 0 : PolicyScript.NONE);
-                x.hold(PolicyScript.HASH, i, false);
-            }
-            for (int i = 8 - n; i < 8; i++) {
-                DUE.is("earliest() of " + n, x.earliest(), PolicyScript.NONE);
-                x.hold(PolicyScript.HASH, i, true);
-            }
-            DUE.is("earliest() with the last " + n, x.earliest(), 0);
-        }
-    }
-
-    private static void atLeastK() {
-        for (int n = 2; n <= 8; n++) {
-            for (int k = 1; k <= n; k++) {
-                PolicyScript x = Due.hashes(k, n);
-                for (int mask = 0; mask < 1 << n; mask++) {
-                    for (int i = 0; i < n; i++) {
-                        x.hold(PolicyScript.HASH, i, (mask >> i & 1) == 1);
-                    }
-                    int due = Integer.bitCount(mask) >= k ? 0 : PolicyScript.NONE;
-                    DUE.is(k + " of " + n + " with mask " + mask, x.earliest(), due);
-                }
-            }
-        }
-    }
-
     private static void joinCodes() {
         for (int n = 2; n <= 8; n++) {
             for (int k = 1; k <= n; k++) {
@@ -251,17 +213,15 @@ public final class WordsTest {
             boolean accepted = filledBy(mask).spend() == PolicyScript.ACCEPTED;
             DUE.is("ACCEPTED for mask " + mask, accepted ? 1 : 0, minimal ? 1 : 0);
         }
-        for (int extra = 0; extra < 8; extra++) {
-            PolicyScript x = new PolicyScript(8, 1, 1, 1);
-            for (int i = 0; i < 8; i++) {
-                x.lock(PolicyScript.AFTER, 0);
-            }
-            x.join(1, 8);
-            x.seal();
-            x.place(7 - extra, PolicyScript.AFTER, 0);
-            DUE.is("spend() of lock " + (7 - extra), x.spend(), PolicyScript.ACCEPTED);
-            x.place(extra, PolicyScript.AFTER, 0);
-            DUE.is("spend() with lock " + extra + " more", x.spend(), PolicyScript.LOOSE);
+        for (int lock = 0; lock < 8; lock++) {
+            int pair = Math.min(lock, 6);
+            int other = (lock + 4) % 8;
+            PolicyScript x = Due.onePairOfEight(pair);
+            x.place(other, PolicyScript.HASH, other);
+            DUE.is("spend() of lock " + other, x.spend(), PolicyScript.ACCEPTED);
+            x.place(lock, PolicyScript.HASH, lock);
+            DUE.is("spend() with " + lock + " of no use", x.spend(), PolicyScript.LOOSE);
+            DUE.is("variants() with the pair " + pair, x.variants(), 7);
         }
     }
 
