@@ -4,12 +4,16 @@ import java.util.TreeSet;
 
 /** Compares answers with the ones that are due, and keeps count of those that differ. */
 final class Due {
+    private static final int MOST_TOLD = 20;
+
     private int wrong = 0;
+    private int wrongInSentence = 0;
     private String sentence = "";
 
     /** Runs the test of one sentence of the document; what differs is told under that sentence. */
     void sentence(String words, Runnable test) {
         sentence = words;
+        wrongInSentence = 0;
         try {
             test.run();
         } catch (RuntimeException thrown) {
@@ -35,12 +39,14 @@ final class Due {
     }
 
     private void differs(String what) {
-        if (!sentence.isEmpty()) {
-            System.out.println("broken: \"" + sentence + "\"");
-            sentence = "";
-        }
         wrong++;
-        System.out.println("  " + what);
+        wrongInSentence++;
+        if (wrongInSentence == 1) {
+            System.out.println("broken: \"" + sentence + "\"");
+        }
+        if (wrongInSentence <= MOST_TOLD) {
+            System.out.println("  " + what);
+        }
     }
 
     void end() {
