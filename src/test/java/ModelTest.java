@@ -93,9 +93,10 @@ public final class ModelTest {
         return due("lock(" + kind + ", " + number + ")", x.lock(kind, number), model.lock(kind, number));
     }
 
+    /** Mostly few roots, which even a short draft has, and now and then any number of them. */
     private boolean join() {
-        int n = random.nextInt(10) == 0 ? odd() : random.nextInt(2, 5);
-        int k = random.nextInt(10) == 0 ? odd() : random.nextInt(1, 4);
+        int n = random.nextInt(10) == 0 ? odd() : random.nextInt(2, random.nextInt(3) == 0 ? 9 : 5);
+        int k = random.nextInt(10) == 0 ? odd() : random.nextInt(1, Math.max(2, Math.min(8, n) + 1));
         return due("join(" + k + ", " + n + ")", x.join(k, n), model.join(k, n));
     }
 
